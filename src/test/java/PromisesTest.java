@@ -30,6 +30,7 @@ final class PromisesTest {
         p32();
         p33();
         p34p35();
+        fullImage();
         p36p37();
         p38p39();
         p40();
@@ -79,10 +80,8 @@ final class PromisesTest {
         due("3 below", Checks.PLACE, x.set(1, -1, 0));
         due("3 beyond", Checks.PLACE, x.set(1, 3, 0));
         due("3 none there", Checks.PLACE, x.set(0, 0, 0));
-        due("2 in place", 4, x.sheet(1, 1, 4));
-        due("4 first item is 0 again", 1, x.copy(1, 0, 2, 2, 1));
-        FireRows world = Checks.world(REST);
-        copies(world);
+        copies(Checks.world(REST));
+        sheetAnew(Checks.world(REST));
         due("5 no sheet", BAD, x.drop(-1));
         due("5 no sheet above", BAD, x.drop(8));
         due("5 missing", Checks.NULL, x.drop(3));
@@ -90,6 +89,16 @@ final class PromisesTest {
         due("5 missing now", Checks.NULL, x.drop(7));
         due("5 none", 0, x.drop(0));
         due("5 how many are left", 2, x.count(0));
+    }
+
+    private static void sheetAnew(FireRows x) {
+        Checks.fill(x, 0, 7, 8, 9, 6);
+        due("2 in place", 2, x.sheet(0, 0, 2));
+        due("2 fewer items", Checks.PLACE, x.set(0, 2, 1));
+        due("2 as hills", 1, x.hills(0, 0, 1));
+        due("2 first is 0", 0, x.told(0, 0));
+        due("2 second is 0", 0, x.told(0, 1));
+        due("2 first sheet counts", 1, x.count(0));
     }
 
     private static void copies(FireRows x) {
@@ -167,6 +176,10 @@ final class PromisesTest {
         due("12 y", 2, x.told(1, 1));
         due("12 an item", BAD, x.hills(0, 0, 3));
         due("12 nothing came", 2, x.count(6));
+        due("12 an item behind is not looked at", 4, x.hills(0, 1, 2));
+        Checks.read(x, SMALL);
+        x.hill(0, 0);
+        x.hill(0, 0);
         due("12 no sheet", BAD, x.hills(8, 0, 1));
         due("12 n", BAD, x.hills(0, 0, 0));
         due("12 n above", BAD, x.hills(0, 0, 13));
@@ -396,6 +409,11 @@ final class PromisesTest {
         due(of + " far beyond", Checks.PLACE, row(x, call, 0, MOST, 12));
         due(of + " status", 2, x.status());
         due(of + " twice", BAD, row(x, call, 0, 1, 3));
+        Checks.fill(x, 1, 0, 1, 3);
+        due(of + " next to the last hill", BAD, row(x, call, 1, 0, 3));
+        x.set(1, 2, -1);
+        due(of + " ahead of the first hill", BAD, row(x, call, 1, 0, 3));
+        due(of + " beyond once more", Checks.PLACE, row(x, call, 0, 4, 3));
         due(of + " no such hill", BAD, row(x, call, 0, 2, 3));
         due(of + " no such hill below", BAD, row(x, call, 0, 3, 3));
         due(of + " status stays", 2, x.status());
@@ -530,6 +548,12 @@ final class PromisesTest {
         x.date(0, 0, 1);
         due("26 midst of 0 and 21, cut", 3, x.turn(0));
         due("26 hits it", 0, x.turn(2));
+        FireRows y = Checks.world("floor 9 -5 3;fire 0 0 0 0 5 2;house 0 0;story late 1;");
+        y.hill(500, -500);
+        y.date(0, 0, 10);
+        due("26 fastest x", 20, y.turn(0));
+        due("26 fastest y", -20, y.turn(1));
+        due("26 by the rest", 600, y.turn(2));
     }
 
     private static void p27() {
@@ -574,11 +598,16 @@ final class PromisesTest {
         x.date(1, 0, 1);
         due("29 in all", 3, x.leans(0, 1, 0));
         due("29 in all to", 4, x.leans(0, 1, 1));
+        due("29 the other way, in all", -4, x.leans(1, 0, 0));
         x.hill(0, 0);
         x.date(2, 1, 4);
         x.date(2, 0, 3);
         due("29 nothing", NONE, x.leans(0, 1, 0));
         due("29 nothing to", NONE, x.leans(0, 1, 1));
+        x.image(0);
+        Checks.read(x, "floor 9 0 7;fire 0 0 0 2 5 2;house 5 1;house 0 2;story stays 1;");
+        due("29 hills of the floor before", NONE, x.leans(0, 1, 0));
+        x.restore(0);
         due("29 alike", BAD, x.leans(1, 1, 0));
         due("29 no house", BAD, x.leans(0, 3, 0));
         due("29 no house below", BAD, x.leans(-1, 0, 0));
@@ -693,7 +722,14 @@ final class PromisesTest {
         x.needle(0, 0, 0);
         due("35 back", 1, x.restore(0));
         afterRestore(x);
-        Checks.read(x, SMALL);
+        Checks.read(x, "floor 9 1 0;fire 0 0 0 0 1 0;house 5 5;house 4 4;story stays 1;");
+        x.hill(90, 91);
+        due("35 a hill of a new floor has no dates", 0, x.told(0, 2));
+        ends(x, "35 a hill of a new floor", 0, 0, 99, 0);
+        for (int v = 0; v < 80; v += 20) {
+            x.date(0, 1, v);
+        }
+        x.needle(0, 92, 93);
         Checks.fill(x, 5, 1, 2, 3);
         Checks.feed(x, "floor");
         due("35 another floor", 1, x.restore(0));
@@ -706,12 +742,45 @@ final class PromisesTest {
         due("35 without hills", 1, x.restore(1));
         due("35 no hills", 0, x.count(6));
         x.hill(1, 1);
+        x.date(0, 0, 90);
+        x.date(0, 0, 10);
+        due("35 what is on the tape alone", -1000105, x.floor());
+        Checks.read(x, WIDE);
+        x.hill(1, 1);
         due("35 a new hill has no dates", 0, x.told(0, 2));
         due("35 a new hill has no needle", 0, x.told(0, 6));
         ends(x, "35 a new hill", 0, 0, 99, 0);
         due("34 anew", 1, x.image(0));
         due("35 anew", 1, x.restore(0));
         due("35 the later one", 1, x.told(0, 0));
+    }
+
+    /** All rooms of an image, and a row of all hills that bends nowhere. */
+    private static void fullImage() {
+        FireRows x = Checks.world(REST);
+        x.sheet(0, 0, 12);
+        for (int h = 0; h < 12; h++) {
+            x.hill(h, h);
+            x.set(0, h, h);
+            for (int d = 0; d < 3; d++) {
+                x.date(h, 1, 40 + h % 2 * 20 + d);
+            }
+        }
+        due("34 full", 1, x.image(1));
+        due("23 nowhere, of all hills", NONE, x.bend(0, 0, 12));
+        Checks.read(x, REST);
+        for (int h = 0; h < 12; h++) {
+            x.hill(0, 0);
+            x.date(h, 0, 1);
+            x.date(h, 1, 2);
+        }
+        due("35 full", 1, x.restore(1));
+        for (int h = 0; h < 12; h++) {
+            due("35 one more of " + h, 4, x.date(h, 0, 42 + h % 2 * 20));
+            ends(x, "35 full " + h, h, 42 + h % 2 * 20, 42 + h % 2 * 20, 0);
+        }
+        due("35 first dates", 2 - 5, x.leans(0, 1, 0));
+        due("35 first dates to", 2 + 5, x.leans(0, 1, 1));
     }
 
     private static void afterRestore(FireRows x) {
@@ -723,6 +792,14 @@ final class PromisesTest {
         due("35 stories", 4, x.count(5));
         due("35 drift", -139, x.drift(99, 0));
         due("35 needle", 0, x.says(0));
+        x.hill(0, 0);
+        x.needle(1, 0, 0);
+        due("35 needle at least", 6 - 7, x.wandered(0, 1, 0));
+        due("35 needle at most", 6 + 7, x.wandered(0, 1, 1));
+        x.date(0, 1, 12);
+        due("35 a date that was kept", 9 - 12 - 3, x.leans(0, 1, 0));
+        ends(x, "35 dates that were kept", 0, 8, 10, 0);
+        due("35 back again", 1, x.restore(0));
     }
 
     private static FireRows kinds() {

@@ -68,6 +68,14 @@ final class TextsTest {
         fault(" Floor", 1, 1);
         fault("floors 9 1 0;", 0, 1);
         fault("floo 9 1 0;", 0, 1);
+        fault("gloor 9 1 0;", 0, 1);
+        fault("flook 9 1 0;", 0, 1);
+        fault("floorz 9 1 0;", 0, 1);
+        fault("floora 9 1 0;", 0, 1);
+        fault("floor{ 9 1 0;", 5, 1);
+        fault("floor` 9 1 0;", 5, 1);
+        fault("floor : 9 1 0;", 6, 1);
+        fault("floor / 9 1 0;", 6, 1);
         fault("floor", 5, 1);
         fault("floor ", 6, 1);
         fault("floor ;", 6, 1);
