@@ -16,6 +16,8 @@ public final class FireRows {
     private static final int ITEMS = 40, SHEETS = 8, LANES = 3;
     private static final int OLDEST = 99, FARTHEST = 99999, WIDEST_NEEDLE = 999;
     private static final int HILLS = 12, DATES = 4, MADE = 6, IMAGES = 2;
+    /** More than any answer, and than all hills can be off together. */
+    private static final int BEYOND_ALL = 1 << 30;
 
     private final Sheet[] sheets = new Sheet[SHEETS];
     private final Tape tape = new Tape();
@@ -217,7 +219,7 @@ public final class FireRows {
             case 4:
                 return all.upper[hill];
             case 5:
-                return all.again[hill] ? 1 : 0;
+                return all.again[hill];
             default:
                 return all.hasNeedle(hill) ? 1 : 0;
         }
@@ -354,8 +356,8 @@ public final class FireRows {
         }
         Lines houses = world.floor.houses;
         int spans = houses.at(a, Floor.SPAN) + houses.at(b, Floor.SPAN);
-        int from = Integer.MIN_VALUE;
-        int to = Integer.MAX_VALUE;
+        int from = -BEYOND_ALL;
+        int to = BEYOND_ALL;
         for (int h = 0; h < world.hills.number; h++) {
             int ofA = world.hills.firstDateOf(h, a);
             int ofB = world.hills.firstDateOf(h, b);
@@ -364,7 +366,7 @@ public final class FireRows {
                 to = Math.min(to, ofA - ofB + spans);
             }
         }
-        if (from == Integer.MIN_VALUE || from > to) {
+        if (from == -BEYOND_ALL || from > to) {
             return NONE;
         }
         return what == 0 ? from : to;
@@ -558,7 +560,7 @@ public final class FireRows {
 
     private int kindOf(int hill) {
         Hills all = world.hills;
-        if (all.again[hill]) {
+        if (all.again[hill] != 0) {
             return Asks.TWICE;
         }
         if (all.dates[hill] > 0) {
@@ -917,7 +919,8 @@ public final class FireRows {
         final int[] dates = new int[HILLS];
         final int[] lower = new int[HILLS];
         final int[] upper = new int[HILLS];
-        final boolean[] again = new boolean[HILLS];
+        /** Whether the hill is AGAIN: 1, 0. */
+        final int[] again = new int[HILLS];
         final int[] needleY = new int[HILLS];
         final int[] needleWide = new int[HILLS];
         int number;
@@ -948,7 +951,7 @@ public final class FireRows {
             dates[number] = 0;
             lower[number] = 0;
             upper[number] = OLDEST;
-            again[number] = false;
+            again[number] = 0;
             needleWide[number] = NO_NEEDLE;
             number++;
         }
@@ -976,9 +979,10 @@ public final class FireRows {
                 }
                 leastUpper = Math.min(leastUpper, high);
             }
-            again[hill] = greatestLower > leastUpper;
+            boolean isAgain = greatestLower > leastUpper;
+            again[hill] = isAgain ? 1 : 0;
             lower[hill] = greatestLower;
-            upper[hill] = again[hill] ? upperOfGreatest : leastUpper;
+            upper[hill] = isAgain ? upperOfGreatest : leastUpper;
         }
 
         private static int asAge(int v) {
@@ -1078,7 +1082,7 @@ public final class FireRows {
 
         void find(int hill, int story) {
             int last = floor.isLate(story) ? OLDEST : hills.upper[hill];
-            off = Integer.MAX_VALUE;
+            off = BEYOND_ALL;
             for (int f = 0; f < floor.firesOf(story); f++) {
                 findBy(hill, story, f, last);
             }
@@ -1328,7 +1332,7 @@ public final class FireRows {
         }
 
         void seek() {
-            off = Integer.MAX_VALUE;
+            off = BEYOND_ALL;
             for (int tryX = -FASTEST; tryX <= FASTEST; tryX++) {
                 for (int tryY = -FASTEST; tryY <= FASTEST; tryY++) {
                     int all = offBy(tryX, tryY);
@@ -1354,7 +1358,7 @@ public final class FireRows {
         }
 
         private int offFires(int fromX, int fromY) {
-            int least = Integer.MAX_VALUE;
+            int least = BEYOND_ALL;
             for (int f = 0; f < floor.fires.number; f++) {
                 int by = Math.abs(fromX - floor.fires.at(f, Floor.X)) + Math.abs(fromY - floor.fires.at(f, Floor.Y));
                 least = Math.min(least, by);
