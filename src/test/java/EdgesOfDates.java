@@ -176,7 +176,7 @@ final class EdgesOfDates {
             x.needle(h, h, h);
         }
         e.due("of all hills", 1, x.image(1));
-        Checks.read(x, FLOOR + FIRE + STORY);
+        otherHills(x);
         x.restore(1);
         for (int h = 0; h < 12; h++) {
             int[] told = {h, -h, 4, 35 + h, 45 + h, 0, 1};
@@ -186,6 +186,9 @@ final class EdgesOfDates {
             e.due("hill " + h + " has all its dates", Edges.FULL, x.date(h, 0, 0));
         }
         e.due("all hills have room for no more", Edges.FULL, x.hill(0, 0));
+        e.due("needles, at least", -11 - 11, x.wandered(0, 11, 0));
+        e.due("needles, at most", -11 + 11, x.wandered(0, 11, 1));
+        keptDates();
         x.restore(0);
         e.due("no hills", 0, x.count(6));
         x.hill(5, 5);
@@ -203,6 +206,35 @@ final class EdgesOfDates {
         e.due("none was kept", Edges.STATE, none.restore(0));
         Checks.read(none, FLOOR);
         e.due("no floor by a fault", Edges.STATE, none.image(1));
+    }
+
+    /** Twelve hills that are not like any that an image keeps: all are again. */
+    private static void otherHills(FireRows x) {
+        Checks.read(x, FLOOR + FIRE + "house 0 0;house 0 0;house 0 0;" + STORY);
+        for (int h = 0; h < 12; h++) {
+            x.hill(500 + h, 600 + h);
+            x.date(h, 2, 90);
+            x.date(h, 2, 7);
+            x.needle(h, 700 * h, 800);
+        }
+    }
+
+    /** Houses and ages of dates are seen by what the houses lean, and by one date more. */
+    private void keptDates() {
+        FireRows x = Edges.rest(12);
+        for (int h = 0; h < 12; h++) {
+            x.date(h, 0, 50);
+            x.date(h, 1, 40 + Math.min(h, 10));
+        }
+        x.image(0);
+        otherHills(x);
+        x.restore(0);
+        leaning(x, "dates of all hills", 0, 1, 5, 5);
+        for (int h = 0; h < 12; h++) {
+            e.due("one more of " + h, 3, x.date(h, 1, 50));
+            boolean isAgain = h < 5;
+            e.ends(x, "with one more of " + h, h, 50, 50, isAgain ? 1 : 0);
+        }
     }
 
     private void restore() {

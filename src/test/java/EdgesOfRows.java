@@ -217,6 +217,16 @@ final class EdgesOfRows {
         e.due("20, 31, 40 do not", 0, wideDates(15, 36, 35).even(0, 0, 3));
         e.due("30, 20, 10 alone go through", 1, wideDates(35, 15, 15).even(0, 0, 3));
         e.due("30, 19, 10 do not", 0, wideDates(35, 14, 15).even(0, 0, 3));
+        FireRows up = line(0, 0);
+        up.hill(2, 0);
+        up.date(2, 1, 10);
+        Checks.fill(up, 0, 0, 1, 2);
+        e.due("0, 0, 5 to 15, next to one another", 0, up.even(0, 0, 3));
+        FireRows down = line(10, 10);
+        down.hill(2, 0);
+        down.date(2, 1, 4);
+        Checks.fill(down, 0, 0, 1, 2);
+        e.due("10, 10, 0 to 9, next to one another", 0, down.even(0, 0, 3));
     }
 
     private void bend() {
@@ -228,6 +238,7 @@ final class EdgesOfRows {
         e.due("the least of two", 1, bendsAtEither().bend(0, 0, 4));
         e.due("twelve, k is 10", 10, line(0, 1, 2, 3, 4, 5, 6, 7, 8, 9, 10, 99).bend(0, 0, 12));
         e.due("twelve, k is 1", 1, line(99, 1, 2, 3, 4, 5, 6, 7, 8, 9, 10, 11).bend(0, 0, 12));
+        e.due("twelve, it bends at each", Edges.NONE, line(0, 9, 0, 9, 0, 9, 0, 9, 0, 9, 0, 9).bend(0, 0, 12));
         e.due("it bends twice", Edges.NONE, line(0, 10, 0, 10).bend(0, 0, 4));
         e.due("it is even", Edges.NONE, line(0, 10, 20, 30).bend(0, 0, 4));
         FireRows x = line(0, 10, 20, 15, 10);
@@ -416,6 +427,19 @@ final class EdgesOfRows {
         fires.date(0, 0, 10);
         fires.date(1, 1, 10);
         turns(fires, "each by its nearest fire, that stays", 3, 0, 0);
+        FireRows north = Checks.world("floor 1 0 0;fire 70 -300 0 0 1 0;house 0 0;" + Edges.STORY);
+        north.hill(70, -250);
+        north.date(0, 0, 10);
+        turns(north, "from a fire elsewhere", 0, 5, 0);
+        FireRows lone = Checks.world("floor 1 0 0;fire 300 400 0 0 1 0;house 0 0;" + Edges.STORY);
+        lone.hill(0, 0);
+        lone.date(0, 0, 0);
+        turns(lone, "no other fire is nearer", -20, -20, 700);
+        FireRows four = Checks.world("floor 1 0 0;fire 300 0 0 0 1 0;fire 200 0 0 0 1 0;fire 100 0 0 0 1 0;fire 1 0 0 0 1 0;house 0 0;"
+            + Edges.STORY);
+        four.hill(0, 0);
+        four.date(0, 0, 0);
+        turns(four, "the last of four fires", -20, -20, 1);
         FireRows again = Edges.rest(1);
         again.hill(40, 0);
         again.date(1, 0, 2);

@@ -75,6 +75,13 @@ final class EdgesOfStories {
         nearest(x, "late from 99 on", 9, 3, 0, 99, 99, 0);
         x.hill(198, 0);
         nearest(x, "a crack to 99", 10, 2, 0, 99, 0, 1);
+        FireRows north = Checks.world("floor 99 0 1;fire 0 0 0 1 1 0;fire 0 9 0 -1 1 0;crack 0 0 0 -3 0;" + STORY
+            + "story wanders 1;story crack 1;");
+        north.hill(0, 99);
+        nearest(north, "north, of several the least fire", 0, 0, 0, 99, 0, 1);
+        nearest(north, "where a fire wandered by twice as much", 0, 1, 1, 45, 0, 1);
+        north.hill(0, -297);
+        nearest(north, "south by the crack", 1, 2, 0, 99, 0, 1);
         e.promise(16, "NEAREST of a HILL by a STORY: the FIRE (what = 0), the AGE (1), by how much it is OFF (2), whether it FITS (3: 1, 0).");
         x.hill(600, 9);
         nearest(x, "the other fire", 11, 0, 1, 99, 10, 1);
@@ -278,6 +285,20 @@ final class EdgesOfStories {
         far.hill(5, 5);
         far.hill(99, 0);
         e.due("by 99", 1, far.bore());
+        FireRows old = Checks.world("floor 99 1 0;fire 0 0 0 0 1 0;crack 30 0 1 0 0;story stays 1;story crack 1;");
+        old.hill(29, 0);
+        old.hill(30, 0);
+        old.hill(110, 0);
+        old.hill(99, 0);
+        e.due("by 30, though others are older", 1, old.bore());
+        FireRows four = Checks.world("floor 99 1 0;fire 0 0 0 0 1 0;crack 9 0 0 0 0;story stays 1;story late 1;story stays 2;story crack 1;");
+        four.hill(5, 0);
+        four.hill(6, 0);
+        e.due("by the last of four stories", 1, four.bore());
+        Checks.read(four, "floor 99 1 0;fire 0 0 0 0 1 0;story stays 1;story late 1;story stays 2;");
+        four.hill(5, 0);
+        four.hill(6, 0);
+        e.due("not by a story of the floor before", 0, four.bore());
         FireRows one = Edges.rest(12);
         e.due("one story", 0, one.bore());
         for (int h = 0; h < 11; h++) {
@@ -318,10 +339,17 @@ final class EdgesOfStories {
         x.hill(0, 0);
         x.date(6, 0, 0);
         comes(x, "it came now", 0, 20, 20);
+        x.hill(0, 0);
+        x.date(7, 0, 5);
+        comes(x, "a later hill that is older", 0, 20, 20);
         x.hill(50, 0);
         comes(x, "the other fire", 1, 0, 1);
-        x.date(7, 0, 1);
+        x.date(8, 0, 1);
         comes(x, "by 1 of 1", 1, 0, 0);
+        FireRows first = Edges.rest(2);
+        first.date(0, 0, 2);
+        first.date(1, 0, 3);
+        comes(first, "hill 0 of two", 0, 8, 8);
         e.terms("NONE: there is no such HILL.");
         FireRows none = Edges.rest(0);
         comes(none, "no hills", 0, Edges.NONE, Edges.NONE);

@@ -95,6 +95,8 @@ final class EdgesOfTexts {
         faulty("floora 9 1 0;", 0, 1);
         faulty("floorz 9 1 0;", 0, 1);
         faulty("floo", 0, 1);
+        faulty("gloor 9 1 0;", 0, 1);
+        faulty("floos 9 1 0;", 0, 1);
         faulty("f", 0, 1);
         faulty("z".repeat(ROOM), 0, 1);
         e.terms("NUMBERS (perhaps -, at once figures, 4 at most),");
@@ -132,6 +134,9 @@ final class EdgesOfTexts {
         faulty("floor 9 1 0,", 11, 1);
         faulty("floor 9 1 0:", 11, 1);
         faulty(";", 0, 1);
+        faulty("floor 9 1 0-" + FIRE + STORY, 11, 1);
+        faulty("floor 9 1 0 12345" + FIRE + STORY, 12, 1);
+        faulty(FLOOR + FIRE + "story stays 1-", 42, 1);
     }
 
     private void order() {
@@ -271,6 +276,7 @@ final class EdgesOfTexts {
         for (int h = 0; h < 12; h++) {
             x.hill(h, h);
             x.date(h, 0, 5);
+            x.date(h, 0, 6);
             x.needle(h, 1, 1);
         }
         e.due("another one", 1, Checks.read(x, FLOOR + FIRE + STORY));

@@ -28,6 +28,7 @@ final class LanguageTest {
         constants();
         String code = withoutComments(Files.readString(SOURCE, StandardCharsets.US_ASCII));
         barredWords(code);
+        library(code);
         methods(code);
         room();
         CHECKS.end();
@@ -92,6 +93,15 @@ final class LanguageTest {
             String whole = Character.isLetter(word.charAt(0)) ? "\\b" + word : word;
             Matcher m = Pattern.compile(whole + (word.matches("[a-z]+") ? "\\b" : "")).matcher(code);
             CHECKS.due("'" + word + "' in the class", 0, m.find() ? 1 : 0);
+        }
+    }
+
+    /** Of the library's classes the class uses functions that rule 4 lists, and no constants. */
+    private static void library(String code) {
+        List<String> listed = List.of("Math.abs", "Math.min", "Math.max", "Integer.bitCount", "Arrays.fill", "System.arraycopy");
+        Matcher m = Pattern.compile("\\b(?:Math|Integer|Long|Arrays|System|String|Character)\\.\\w+").matcher(code);
+        while (m.find()) {
+            CHECKS.due(m.group() + " is listed", 1, listed.contains(m.group()) ? 1 : 0);
         }
     }
 
